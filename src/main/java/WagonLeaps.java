@@ -403,11 +403,9 @@ public final class WagonLeaps {
 
         /** Where a drive comes to stand first, not yet rolled on. */
         int landing(int from, int other, int drive) {
-            int place = from;
-            for (int gone = 0; gone < drive && !isEnd(place); gone++) {
-                place = next(place, other);
-            }
-            return place;
+            boolean leaps = from < other && other <= from + drive;
+            int place = leaps ? from + drive + 1 : from + drive;
+            return place > miles ? miles + 1 : place;
         }
 
         /** Where a drive comes to stand at last. */
@@ -742,6 +740,8 @@ public final class WagonLeaps {
         private static final int STANDS = 1 << 14;
         private static final int TAILS = 1 << 6;
         private static final int UNTOLD = 0;
+        /** A number that no worth is. */
+        private static final int GUESS = 1000;
         private static final int ARRIVED = -1;
         private static final int WON = 500;
         /** A level is a drive or a token: two wagons make at most 30 of each in a race. */
@@ -753,7 +753,8 @@ public final class WagonLeaps {
         private final int[] tails = new int[TAILS];
         private final int[] told = new int[STANDS];
         private final int[] swept = new int[STANDS];
-        private boolean isSwept = false;
+        private final int[] coming = new int[STANDS];
+        private int gathered = 0;
         private int pace = 0;
         private int stop = 0;
 
@@ -761,7 +762,7 @@ public final class WagonLeaps {
             orderTails();
         }
 
-        /** Tokens and lost turns become fewer by turns that move nobody, so a sweep goes the other way. */
+        /** By turns that move nobody the tokens become fewer, or they stay and the lost turns do: so the order. */
         private void orderTails() {
             int filled = 0;
             for (int tokens = 0; tokens <= 2; tokens++) {
@@ -787,7 +788,6 @@ public final class WagonLeaps {
             fillRests();
             fillRow(told, UNTOLD);
             fillRow(swept, UNTOLD);
-            isSwept = false;
         }
 
         private void fillRests() {
@@ -805,12 +805,15 @@ public final class WagonLeaps {
         }
 
         int toldBySweeps(Race race) {
-            boolean changed = !isSwept;
+            int stand = standOf(race);
+            boolean changed = at(swept, stand) == UNTOLD;
+            if (changed) {
+                gather(stand);
+            }
             for (int i = 0; i < MOST_SWEEPS && changed; i++) {
                 changed = sweep();
             }
-            isSwept = true;
-            return at(swept, standOf(race));
+            return at(swept, stand);
         }
 
         /** The worth of a turn that is possible. */
@@ -849,12 +852,7 @@ public final class WagonLeaps {
                 free = after(free, LOST_TURN);
             }
             if (at(told, free) == UNTOLD) {
-                for (int turn = 1; turn <= TOKEN_TURN; turn++) {
-                    int next = isPossible(free, turn) ? after(free, turn) : ARRIVED;
-                    if (next != ARRIVED) {
-                        tellInto(next, depth + 1);
-                    }
-                }
+                tellAllAfter(free, depth + 1);
                 put(told, free, greatestBy(told, free));
             }
             int worth = at(told, free);
@@ -865,36 +863,58 @@ public final class WagonLeaps {
             return worth;
         }
 
-        /** Tells all stands once, those behind others first; whether a number became another one. */
-        private boolean sweep() {
-            boolean changed = false;
-            for (int sum = 2 * way.miles; sum >= 0; sum--) {
-                for (int i = 0; i < TAILS; i++) {
+        private void tellAllAfter(int stand, int depth) {
+            for (int turn = 1; turn <= TOKEN_TURN; turn++) {
+                int next = isPossible(stand, turn) ? after(stand, turn) : ARRIVED;
+                if (next != ARRIVED) {
+                    tellInto(next, depth);
+                }
+            }
+        }
+
+        /** Lists the stands that could be from a stand on and have no number yet, each ahead of those after it. */
+        private void gather(int start) {
+            gathered = 0;
+            put(swept, start, GUESS);
+            for (int sum = 0; sum <= 2 * way.miles; sum++) {
+                for (int i = TAILS - 1; i >= 0; i--) {
                     for (int own = 0; own <= way.miles && own <= sum; own++) {
-                        int other = sum - own;
-                        if (other <= way.miles && (own != other || own == 0)) {
-                            changed |= sweepStand(own << 10 | other << 6 | at(tails, i));
+                        int stand = own << 10 | (sum - own & 15) << 6 | at(tails, i);
+                        if (sum - own <= way.miles && at(swept, stand) == GUESS) {
+                            put(coming, gathered, stand);
+                            gathered++;
+                            guessAllAfter(stand);
                         }
                     }
                 }
             }
-            return changed;
         }
 
-        private boolean sweepStand(int stand) {
-            int worth = greatestBy(swept, stand);
-            boolean changed = worth != at(swept, stand);
-            put(swept, stand, worth);
+        private void guessAllAfter(int stand) {
+            for (int turn = LOST_TURN; turn <= TOKEN_TURN; turn++) {
+                int next = isPossible(stand, turn) ? after(stand, turn) : ARRIVED;
+                if (next != ARRIVED && at(swept, next) == UNTOLD) {
+                    put(swept, next, GUESS);
+                }
+            }
+        }
+
+        /** Tells all stands of the list once, the last ones first; whether a number became another one. */
+        private boolean sweep() {
+            boolean changed = false;
+            for (int i = gathered - 1; i >= 0; i--) {
+                int stand = at(coming, i);
+                int worth = greatestBy(swept, stand);
+                changed = changed || worth != at(swept, stand);
+                put(swept, stand, worth);
+            }
             return changed;
         }
 
         /** The worth of a stand by those that a row tells of the stands behind it. */
         private int greatestBy(int[] row, int stand) {
-            if (ownLoses(stand) > 0) {
-                return worthBy(row, stand, LOST_TURN);
-            }
             int greatest = -WON;
-            for (int turn = 1; turn <= TOKEN_TURN; turn++) {
+            for (int turn = LOST_TURN; turn <= TOKEN_TURN; turn++) {
                 if (isPossible(stand, turn)) {
                     greatest = Math.max(greatest, worthBy(row, stand, turn));
                 }
@@ -912,8 +932,10 @@ public final class WagonLeaps {
             return worth < 0 ? -worth - 1 : 1 - worth;
         }
 
-        /** Whether a wagon that loses no turn could make a turn that is not a lost one. */
         private boolean isPossible(int stand, int turn) {
+            if (turn == LOST_TURN || ownLoses(stand) > 0) {
+                return turn == LOST_TURN && ownLoses(stand) > 0;
+            }
             return turn == TOKEN_TURN ? (stand >> 5 & 1) == 1 : turn <= pace;
         }
 
@@ -934,7 +956,7 @@ public final class WagonLeaps {
                 if (way.isEnd(own)) {
                     return ARRIVED;
                 }
-                int kind = way.kindOf(own);
+                int kind = at(way.kinds, own);
                 ownToken = kind == INN ? 1 : ownToken;
                 loses = kind == MUDDY ? 1 : 0;
             }

@@ -337,7 +337,8 @@ public final class ModelTests {
         if (got != want) {
             wrong++;
             if (wrong < 20) {
-                System.out.println("run " + run + ", call " + call + ": " + what + " answered " + got + ", due is " + want);
+                System.out.println("run " + run + ", call " + call + ": " + what + " answered " + got + ", due is "
+                        + want);
             }
         }
     }
