@@ -380,7 +380,7 @@ public final class WagonLeaps {
 
         /** What a place is; the two places off the road are plain. */
         int kindOf(int place) {
-            return place >= 1 && place <= miles ? at(kinds, place) : PLAIN;
+            return place >= 1 && place <= miles && place < kinds.length ? kinds[place] : PLAIN;
         }
 
         int howMany(int kind) {
@@ -852,8 +852,7 @@ public final class WagonLeaps {
                 free = after(free, LOST_TURN);
             }
             if (at(told, free) == UNTOLD) {
-                tellAllAfter(free, depth + 1);
-                put(told, free, greatestBy(told, free));
+                put(told, free, greatestInto(free, depth + 1));
             }
             int worth = at(told, free);
             for (int back = 0; back < lost; back++) {
@@ -863,13 +862,16 @@ public final class WagonLeaps {
             return worth;
         }
 
-        private void tellAllAfter(int stand, int depth) {
+        private int greatestInto(int stand, int depth) {
+            int greatest = -WON;
             for (int turn = 1; turn <= TOKEN_TURN; turn++) {
-                int next = isPossible(stand, turn) ? after(stand, turn) : ARRIVED;
-                if (next != ARRIVED) {
-                    tellInto(next, depth);
+                if (isPossible(stand, turn)) {
+                    int next = after(stand, turn);
+                    int others = next == ARRIVED ? -WON : tellInto(next, depth);
+                    greatest = Math.max(greatest, oneTurnBefore(others));
                 }
             }
+            return greatest;
         }
 
         /** Lists the stands that could be from a stand on and have no number yet, each ahead of those after it. */
@@ -904,24 +906,25 @@ public final class WagonLeaps {
             boolean changed = false;
             for (int i = gathered - 1; i >= 0; i--) {
                 int stand = at(coming, i);
-                int worth = greatestBy(swept, stand);
+                int worth = greatestSwept(stand);
                 changed = changed || worth != at(swept, stand);
                 put(swept, stand, worth);
             }
             return changed;
         }
 
-        /** The worth of a stand by those that a row tells of the stands behind it. */
-        private int greatestBy(int[] row, int stand) {
+        /** The worth of a stand by what the sweeps have told so far of the stands after it. */
+        private int greatestSwept(int stand) {
             int greatest = -WON;
             for (int turn = LOST_TURN; turn <= TOKEN_TURN; turn++) {
                 if (isPossible(stand, turn)) {
-                    greatest = Math.max(greatest, worthBy(row, stand, turn));
+                    greatest = Math.max(greatest, worthBy(swept, stand, turn));
                 }
             }
             return greatest;
         }
 
+        /** The worth of a turn by what a row tells of the stand after it. */
         private int worthBy(int[] row, int stand, int turn) {
             int next = after(stand, turn);
             return oneTurnBefore(next == ARRIVED ? -WON : at(row, next));
