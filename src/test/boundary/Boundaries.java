@@ -3,6 +3,10 @@ import java.util.List;
 
 /** Tests of one part of the document, a test for each sentence. */
 abstract class Boundaries {
+    static final String FOURTEEN_INNS = "i".repeat(14);
+    /** Turns on that road, by PACE 1 and STOP 3, of which each is possible, and the race is not over then. */
+    static final String SIXTY_TURNS = "t-1-".repeat(9) + "1-1" + "t-1-".repeat(5) + "t";
+
     private String section = "";
 
     abstract void tests();
@@ -20,10 +24,6 @@ abstract class Boundaries {
         } catch (RuntimeException e) {
             Report.fault("ended with " + e);
         }
-    }
-
-    static String repeat(String part, int times) {
-        return part.repeat(times);
     }
 
     /** Makes a call, told with a # for an argument, with numbers that are not in the argument's range. */

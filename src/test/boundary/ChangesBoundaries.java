@@ -1,6 +1,7 @@
 import java.util.ArrayList;
 import java.util.List;
 import java.util.Set;
+import java.util.TreeSet;
 import java.util.function.Supplier;
 
 /** The changes and the history, the errors, and the calls that change nothing. */
@@ -8,6 +9,11 @@ final class ChangesBoundaries extends Boundaries {
     private static final int MIN = Integer.MIN_VALUE, MAX = Integer.MAX_VALUE;
     private static final Set<String> LOOKS = Set.of("mile", "wagon", "ends", "worth", "worthOf", "bestTurn", "count",
             "speed");
+
+    private static final List<String> ERRORS = List.of("drive-1", "drive-2", "token-2", "lose-2", "best-2", "greedy-2",
+            "set-1", "append-1", "append-3", "fault-1", "fault-4", "road-2", "race-2", "why-1", "why-4", "mile-1",
+            "mile-4", "wagon-1", "ends-1", "ends-2", "worth-1", "worthOf-1", "worthOf-2", "bestTurn-2", "count-1",
+            "count-4", "ended-1", "undo-2", "restore-2");
 
     /** Objects in such states that each error applies to some call in one of them. */
     private static final List<Supplier<Wagons>> STATES = List.of(
@@ -46,7 +52,7 @@ final class ChangesBoundaries extends Boundaries {
 
     private static Wagons over() {
         return new Wagons().answers("set(0, 4) = 3; save() = 0; race('434g444') = 5; count(2) = 0; why(1) = 1")
-                .pad(repeat(".", 15));
+                .pad(".".repeat(15));
     }
 
     private static Wagons overOnOneMile() {
@@ -54,7 +60,7 @@ final class ChangesBoundaries extends Boundaries {
     }
 
     private static Wagons fullPad() {
-        return Wagons.on("....", 1, 1).pad(repeat("t-1", 20));
+        return Wagons.on("....", 1, 1).pad("t-1".repeat(20));
     }
 
     private void changes() {
@@ -152,7 +158,7 @@ final class ChangesBoundaries extends Boundaries {
                     "worth(2) = INVALID_ARGUMENT; worth(-1) = INVALID_ARGUMENT; ended(2, 0, 0) = INVALID_ARGUMENT");
             new Wagons().answers("drive(5) = INVALID_ARGUMENT; ends(5) = INVALID_ARGUMENT");
             // A full pad.
-            new Wagons().pad(repeat("~", 60)).answers("append(33) = LIMIT_REACHED; append(126) = LIMIT_REACHED",
+            new Wagons().pad("~".repeat(60)).answers("append(33) = LIMIT_REACHED; append(126) = LIMIT_REACHED",
                     "append(32) = INVALID_ARGUMENT; append(127) = INVALID_ARGUMENT; append(MIN) = INVALID_ARGUMENT",
                     "append(MAX) = INVALID_ARGUMENT; count(12) = 60");
             // Nothing to be found.
@@ -165,19 +171,27 @@ final class ChangesBoundaries extends Boundaries {
                     "count(2) = NOT_FOUND; count(14) = INVALID_ARGUMENT; set(2, 0) = INVALID_ARGUMENT",
                     "set(-1, 9) = INVALID_ARGUMENT; wagon(2, 8) = INVALID_ARGUMENT",
                     "ended(2, 2, 3) = INVALID_ARGUMENT");
-            // Both kinds of "not possible" in one call: no pad that can be read, and a race that is over.
+            // No call has both NOT_POSSIBLE and LIMIT_REACHED, nor LIMIT_REACHED and NOT_FOUND.
+            // A fault of the pad is an error, a race that is over is none.
             Wagons.won().answers("race('') = NOT_POSSIBLE; race('x') = NOT_POSSIBLE; race('1') = 0; why(1) = 1");
         });
     }
 
     private void errors() {
         sentence("A call that returns an error changes nothing (the pad stays, too).", () -> {
+            TreeSet<String> met = new TreeSet<>();
             for (Supplier<Wagons> state : STATES) {
                 String hidden = state.get().hidden();
                 for (Call call : allCalls()) {
-                    changesNothing(state, call, hidden, false);
+                    int answer = (int) state.get().call(call.name, call.arguments);
+                    if (answer < 0) {
+                        met.add(call.name + answer);
+                        changesNothing(state, call, hidden);
+                    }
                 }
             }
+            // Each error that a promise names has been met, and no other one.
+            Report.same("errors", met.toString(), new TreeSet<>(ERRORS).toString());
         });
     }
 
@@ -193,19 +207,15 @@ final class ChangesBoundaries extends Boundaries {
             String hidden = state.get().hidden();
             for (Call call : allCalls()) {
                 if (names.contains(call.name)) {
-                    changesNothing(state, call, hidden, true);
+                    changesNothing(state, call, hidden);
                 }
             }
         }
     }
 
-    /** Looks at the state before and after a call that returns an error, or that is a look. */
-    private static void changesNothing(Supplier<Wagons> state, Call call, String hidden, boolean isLook) {
+    /** Looks at the state before and after a call; what is hidden is that of an object without the call. */
+    private static void changesNothing(Supplier<Wagons> state, Call call, String hidden) {
         Wagons x = state.get();
-        if (!isLook && x.call(call.name, call.arguments) >= 0) {
-            return;
-        }
-        x = state.get();
         String before = x.everything();
         x.call(call.name, call.arguments);
         Report.same("state " + STATES.indexOf(state) + " after " + call.told(), x.everything(), before);
@@ -233,8 +243,8 @@ final class ChangesBoundaries extends Boundaries {
     /** Each call with arguments in its ranges, next to them, and far from them. */
     private static List<Call> allCalls() {
         List<Call> calls = new ArrayList<>();
-        for (String name : new String[] {"token", "lose", "best", "greedy", "again", "clear", "road", "race", "bestTurn",
-            "speed", "undo", "save", "restore"}) {
+        for (String name : new String[] {"token", "lose", "best", "greedy", "again", "clear", "road", "race",
+            "bestTurn", "speed", "undo", "save", "restore"}) {
             calls.add(new Call(name));
         }
         for (String name : new String[] {"drive", "append", "fault", "why", "ends", "worth", "worthOf", "count"}) {
@@ -276,7 +286,7 @@ final class ChangesBoundaries extends Boundaries {
         });
         sentence("`LIMIT_REACHED = -3`: A fixed limit has been reached.", () -> {
             Report.due("LIMIT_REACHED", WagonLeaps.LIMIT_REACHED, -3);
-            new Wagons().pad(repeat("a", 59)).answers("append(97) = 60; append(97) = -3");
+            new Wagons().pad("a".repeat(59)).answers("append(97) = 60; append(97) = -3");
         });
         sentence("`NOT_FOUND = -4`: There is no such value.", () -> {
             Report.due("NOT_FOUND", WagonLeaps.NOT_FOUND, -4);

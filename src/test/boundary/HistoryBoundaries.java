@@ -9,10 +9,11 @@ final class HistoryBoundaries extends Boundaries {
 
     private void undo() {
         section("Promise 24: undo");
-        sentence("Undoes the latest change: everything but the pad, the snapshot and why() is as it was before it.", () -> {
+        sentence("Undoes the latest change: everything but the pad, the snapshot and why() is as it was before "
+                + "it.", () -> {
             String best = "best() = " + (int) middle().call("bestTurn");
-            for (String change : new String[] {"drive(1) = 5", "drive(3) = 7", "token() = 2", best, "greedy() = 3", "again() = 10",
-                "set(0, 1) = 3", "set(0, 3) = 3", "set(1, 3) = 2", "road('m') = 1", "race('1') = 1",
+            for (String change : new String[] {"drive(1) = 5", "drive(3) = 7", "token() = 2", best, "greedy() = 3",
+                "again() = 10", "set(0, 1) = 3", "set(0, 3) = 3", "set(1, 3) = 2", "road('m') = 1", "race('1') = 1",
                 "race('-') = 0", "race('gg') = 2", "restore() = 1"}) {
                 undoneIs(middle(), change);
             }
@@ -60,7 +61,7 @@ final class HistoryBoundaries extends Boundaries {
                 "wagon(0, 7) = 1");
     }
 
-    /** The looks tell the same before a change and after it is undone, but for the history, which may have dropped a state. */
+    /** Before a change and after it is undone the looks tell the same; the history may have dropped a state. */
     private static void undoneIs(Wagons x, String change) {
         String before = x.race() + x.call("worth", 0) + " " + x.call("bestTurn") + " " + x.call("speed");
         int states = (int) x.call("count", 13);
@@ -71,7 +72,8 @@ final class HistoryBoundaries extends Boundaries {
 
     private void save() {
         section("Promise 25: save");
-        sentence("Takes a snapshot of everything but the pad, the history and why(), in place of the one that was.", () -> {
+        sentence("Takes a snapshot of everything but the pad, the history and why(), in place of the one that "
+                + "was.", () -> {
             Wagons x = middle();
             x.answers("save() = 3");
             String saved = x.race();
@@ -97,7 +99,7 @@ final class HistoryBoundaries extends Boundaries {
                     "save() = 2; again() = 10; save() = 0; race('-') = 0; save() = 0; race('12-') = 2",
                     "save() = 2; road('.') = 1",
                     "save() = 0");
-            Wagons.on(repeat("i", 14), 1, 3).pad(repeat("t-1-", 9) + "1-1" + repeat("t-1-", 5) + "t")
+            Wagons.on(FOURTEEN_INNS, 1, 3).pad(SIXTY_TURNS)
                     .answers("race() = 60; save() = 60; again() = 14; restore() = 60");
             Wagons.won().answers("save() = 1");
         });

@@ -27,7 +27,7 @@ final class LookBoundaries extends Boundaries {
                         "mile(2, 3) = 0; mile(2, 1) = 0"));
         sentence("`mile`: 1 to how many the road has", () -> {
             for (int miles : new int[] {1, 2, 10, 13, 14}) {
-                Wagons x = Wagons.on(repeat("m", miles - 1) + "i");
+                Wagons x = Wagons.on("m".repeat(miles - 1) + "i");
                 x.answers("mile(0, 0) = INVALID_ARGUMENT; mile(" + miles + ", 0) = 3",
                         "mile(" + (miles + 1) + ", 0) = INVALID_ARGUMENT",
                         "mile(" + (miles + 1) + ", 1) = INVALID_ARGUMENT; mile(0, 1) = INVALID_ARGUMENT",
@@ -142,7 +142,8 @@ final class LookBoundaries extends Boundaries {
         section("Promise 17: ends");
         sentence("Tells where a drive would end.", () -> {
             for (String turns : new String[] {"", "1", "2", "3", "4", "11", "13", "31", "44", "t-", "t-1", "t"}) {
-                for (String road : new String[] {".", "s", "..", "s.", "ss.", "s.s", ".s..", "..s.m", "i.ss.i", PLAIN_14}) {
+                for (String road : new String[] {".", "s", "..", "s.", "ss.", "s.s", ".s..", "..s.m", "i.ss.i",
+                    PLAIN_14}) {
                     for (int miles = 0; miles <= 5; miles++) {
                         endsLikeDrive(road, turns, miles);
                     }
@@ -162,7 +163,7 @@ final class LookBoundaries extends Boundaries {
                     "ends(4) = NOT_POSSIBLE; ends(0) = INVALID_ARGUMENT; lose() = 0; ends(4) = 4; drive(2) = 2",
                     "ends(1) = 1",
                     "ends(2) = 3; count(13) = 4; wagon(1, 0) = 0");
-            Wagons.on(repeat("s", 14)).answers("ends(1) = 15; ends(3) = 15; count(2) = NOT_FOUND");
+            Wagons.on("s".repeat(14)).answers("ends(1) = 15; ends(3) = 15; count(2) = NOT_FOUND");
             Wagons.won().answers("ends(1) = NOT_POSSIBLE; ends(4) = NOT_POSSIBLE; ends(0) = INVALID_ARGUMENT",
                     "undo() = 1; ends(1) = 1",
                     "ends(2) = 2; ends(3) = 2");
@@ -186,7 +187,7 @@ final class LookBoundaries extends Boundaries {
         sentence("`way`: 0: told by going into each turn, and what was told once is kept; "
                 + "1: told for all that could be, "
                 + "again and again, until nothing becomes another number", () -> {
-            for (Wagons x : new Wagons[] {new Wagons(), Wagons.on("."), Wagons.on(repeat("i", 14), 1, 3), Wagons.won()}) {
+            for (Wagons x : new Wagons[] {new Wagons(), Wagons.on("."), Wagons.on(FOURTEEN_INNS, 1, 3), Wagons.won()}) {
                 refusesOutside(x, "worth(#)", 0, 1);
                 Report.due("worth(1)", x.call("worth", 1), x.call("worth", 0));
                 x.answers("worth(-1) = INVALID_ARGUMENT; worth(2) = INVALID_ARGUMENT");
@@ -204,10 +205,10 @@ final class LookBoundaries extends Boundaries {
                 // Roads that differ by their number of miles, by their last, and by their first mile alone.
                 Wagons.on(".").answers(worth + "1499; road('...') = 3; " + worth + "504; road('..') = 2",
                         "" + worth + "1499");
-                Wagons.on(repeat("s", 14), 1, 1).answers(worth + "1499; road('" + repeat("s", 13) + ".') = 14",
+                Wagons.on("s".repeat(14), 1, 1).answers(worth + "1499; road('" + "s".repeat(13) + ".') = 14",
                         "" + worth + "504",
-                        "road('" + repeat("s", 14) + "') = 14; " + worth + "1499",
-                        "road('." + repeat("s", 13) + "') = 14",
+                        "road('" + "s".repeat(14) + "') = 14; " + worth + "1499",
+                        "road('." + "s".repeat(13) + "') = 14",
                         worth + "504; undo() = 3; " + worth + "1499; undo() = 2; " + worth + "504");
             }
         });
@@ -315,7 +316,7 @@ final class LookBoundaries extends Boundaries {
                     "count(0) = 1; count(4) = 1",
                     "road('s') = 1; count(4) = 0; count(5) = 1; road('i') = 1; count(5) = 0; count(6) = 1");
             for (int kind = 1; kind <= 3; kind++) {
-                Wagons.on(repeat(".msi".substring(kind, kind + 1), 14)).answers("count(0) = 14",
+                Wagons.on(".msi".substring(kind, kind + 1).repeat(14)).answers("count(0) = 14",
                         "count(" + (3 + kind) + ") = 14",
                         "count(" + (4 + kind % 3) + ") = 0; count(" + (4 + (kind + 1) % 3) + ") = 0");
             }
@@ -341,7 +342,7 @@ final class LookBoundaries extends Boundaries {
                     "set(1, 3) = 1",
                     "count(10) = 1; count(11) = 3; count(13) = 2; set(0, 4) = 1; set(1, 1) = 3; count(10) = 4",
                     "count(11) = 1",
-                    "count(13) = 4; again() = 10; count(13) = 4").pad(repeat("m", 60))
+                    "count(13) = 4; again() = 10; count(13) = 4").pad("m".repeat(60))
                     .answers("count(12) = 60; append(33) = LIMIT_REACHED; count(12) = 60; clear() = 60",
                             "count(12) = 0; undo() = 3",
                             "count(13) = 3");
@@ -353,8 +354,8 @@ final class LookBoundaries extends Boundaries {
         sentence("Returns how far the wagons come by a turn.",
                 () -> new Wagons().answers("drive(3) = 3; speed() = 3; drive(3) = 4; speed() = 3.5; drive(1) = 5",
                         "speed() = 3"));
-        sentence("Returns the places of both wagons together, as a double, divided by the turns so far in this race; 0.0 "
-                + "without any.", () -> {
+        sentence("Returns the places of both wagons together, as a double, divided by the turns so far in this race; "
+                + "0.0 without any.", () -> {
             Wagons x = new Wagons();
             x.answers("speed() = 0; token() = 1; speed() = 0; lose() = 0; speed() = 0; drive(1) = 1");
             Report.due("speed() of 1 by 3", x.call("speed"), 1.0 / 3.0);
@@ -365,12 +366,12 @@ final class LookBoundaries extends Boundaries {
             // No sign of a 0 below 0, which a comparison does not tell.
             Report.due("1 by speed()", 1.0 / new Wagons().call("speed"), Double.POSITIVE_INFINITY);
             // The most: a whole road by one turn, and the end.
-            Wagons.on(repeat("s", 14)).answers("drive(1) = 15; speed() = 15; undo() = 1; speed() = 0");
+            Wagons.on("s".repeat(14)).answers("drive(1) = 15; speed() = 15; undo() = 1; speed() = 0");
             Wagons.on(".").answers("drive(1) = 1; speed() = 1; drive(1) = 2; speed() = 1.5",
                     "drive(1) = NOT_POSSIBLE; speed() = 1.5",
                     "save() = 2; road('.') = 1; speed() = 0; restore() = 2; speed() = 1.5");
             // Many turns: 16 places by 60 turns.
-            x = Wagons.on(repeat("i", 14), 1, 3).pad(repeat("t-1-", 9) + "1-1" + repeat("t-1-", 5) + "t");
+            x = Wagons.on(FOURTEEN_INNS, 1, 3).pad(SIXTY_TURNS);
             x.answers("race() = 60");
             Report.due("speed() of 16 by 60", x.call("speed"), 16.0 / 60.0);
         });
@@ -380,8 +381,8 @@ final class LookBoundaries extends Boundaries {
         section("Promise 23: ended");
         sentence("Tells what the race would end in from now on.", () -> {
             endedAs(Wagons.on(PLAIN_14, 1, 1), 1, 1, 0, 15, 14);
-            endedAs(Wagons.on(repeat("m", 14), 1, 1), 1, 1, 0, 29, 14);
-            endedAs(Wagons.on(repeat("s", 14), 1, 1), 0, 0, 0, 1, 0);
+            endedAs(Wagons.on("m".repeat(14), 1, 1), 1, 1, 0, 29, 14);
+            endedAs(Wagons.on("s".repeat(14), 1, 1), 0, 0, 0, 1, 0);
             endedAs(Wagons.on("iiimimiiiiimi", 1, 3), 0, 0, 1, 92, 13);
             // From the first turn to the last one, and behind it.
             Wagons x = Wagons.on(".", 1, 2);

@@ -30,12 +30,12 @@ final class TermsBoundaries extends Boundaries {
             Wagons x = new Wagons();
             x.answers("road() = NOT_POSSIBLE; count(0) = 10");
             for (int miles : new int[] {1, 2, 13, 14}) {
-                x.answers("road('" + repeat("m", miles) + "') = " + miles + "; count(0) = " + miles
+                x.answers("road('" + "m".repeat(miles) + "') = " + miles + "; count(0) = " + miles
                         + "; mile(0, 0) = INVALID_ARGUMENT; mile(1, 0) = 1; mile(" + miles + ", 0) = 1; mile("
                         + (miles + 1) + ", 0) = INVALID_ARGUMENT");
             }
             for (int miles : new int[] {15, 16, 60}) {
-                x.answers("road('" + repeat(".", miles) + "') = NOT_POSSIBLE; count(0) = 14; mile(14, 0) = 1");
+                x.answers("road('" + ".".repeat(miles) + "') = NOT_POSSIBLE; count(0) = 14; mile(14, 0) = 1");
             }
             Wagons.on(".", 4, 1).answers("ends(1) = 1; ends(2) = 2; ends(3) = 2; ends(4) = 2");
             Wagons.on("sssssssssssss.").answers("drive(1) = 14; count(2) = NOT_FOUND; drive(1) = 15; count(2) = 1");
@@ -268,7 +268,7 @@ final class TermsBoundaries extends Boundaries {
         sentence("There is a pad of at most 60 characters, initially empty.", () -> {
             Wagons x = new Wagons();
             x.answers("count(12) = 0; clear() = 0; fault(0) = 0; fault(1) = 0; append(46) = 1; count(12) = 1");
-            x.padMore(repeat(".", 57)).answers("count(12) = 58; append(46) = 59; append(46) = 60; count(12) = 60",
+            x.padMore(".".repeat(57)).answers("count(12) = 58; append(46) = 59; append(46) = 60; count(12) = 60",
                     "append(46) = LIMIT_REACHED; append(126) = LIMIT_REACHED; count(12) = 60; clear() = 60",
                     "count(12) = 0; append(33) = 1; clear() = 1; clear() = 0");
         });
@@ -281,10 +281,10 @@ final class TermsBoundaries extends Boundaries {
         sentence("A road: 1 to 14 signs: \".\" (plain), \"m\" (muddy), \"s\" (steep), \"i\" (an inn).", () -> {
             new Wagons().answers("fault(0) = 0; road() = NOT_POSSIBLE");
             for (int signs : new int[] {1, 2, 13, 14}) {
-                new Wagons().pad(repeat("i", signs)).answers("fault(0) = NOT_FOUND; road() = " + signs);
+                new Wagons().pad("i".repeat(signs)).answers("fault(0) = NOT_FOUND; road() = " + signs);
             }
             for (int signs : new int[] {15, 59, 60}) {
-                new Wagons().pad(repeat("i", signs)).answers("fault(0) = 14; road() = NOT_POSSIBLE",
+                new Wagons().pad("i".repeat(signs)).answers("fault(0) = 14; road() = NOT_POSSIBLE",
                         "count(12) = " + signs);
             }
             eachSignAlone(0, ".msi");
@@ -309,7 +309,7 @@ final class TermsBoundaries extends Boundaries {
                 + "(the best turn), \"g\" (by greed), \"-\" (a lost turn), one behind the other.", () -> {
             new Wagons().answers("fault(1) = 0; race() = NOT_POSSIBLE");
             for (int signs : new int[] {1, 2, 14, 15, 59, 60}) {
-                new Wagons().pad(repeat("1", signs)).answers("count(12) = " + signs + "; fault(1) = NOT_FOUND");
+                new Wagons().pad("1".repeat(signs)).answers("count(12) = " + signs + "; fault(1) = NOT_FOUND");
             }
             eachSignAlone(1, "1234tbg-");
             new Wagons().answers("race('0') = NOT_POSSIBLE; race('5') = NOT_POSSIBLE; count(3) = 0; count(12) = 1");
@@ -331,19 +331,20 @@ final class TermsBoundaries extends Boundaries {
             new Wagons().answers("count(12) = 0; fault(0) = 0; fault(1) = 0");
             // The first, the second, the last place of a road, and the one behind it, at which no sign is right.
             for (int at : new int[] {0, 1, 12, 13, 14}) {
-                new Wagons().pad(repeat("m", at) + "1").answers("fault(0) = " + at);
+                new Wagons().pad("m".repeat(at) + "1").answers("fault(0) = " + at);
             }
             for (String last : new String[] {".", "1", "~"}) {
-                new Wagons().pad(repeat("m", 14) + last).answers("fault(0) = 14");
-                new Wagons().pad(repeat("m", 13) + last).answers("fault(0) = " + (last.equals(".") ? "NOT_FOUND" : "13"));
+                new Wagons().pad("m".repeat(14) + last).answers("fault(0) = 14");
+                new Wagons().pad("m".repeat(13) + last)
+                        .answers("fault(0) = " + (last.equals(".") ? "NOT_FOUND" : "13"));
             }
             for (int at : new int[] {0, 1, 14, 58, 59}) {
-                new Wagons().pad(repeat("4", at) + ".").answers("fault(1) = " + at);
+                new Wagons().pad("4".repeat(at) + ".").answers("fault(1) = " + at);
             }
             // Of several wrong ones the first.
             new Wagons().pad("!m!").answers("fault(0) = 0; fault(1) = 0");
             new Wagons().pad("m!!").answers("fault(0) = 1; fault(1) = 0");
-            new Wagons().pad("mm5ss5" + repeat("m", 54)).answers("count(12) = 60; fault(0) = 2; fault(1) = 0");
+            new Wagons().pad("mm5ss5" + "m".repeat(54)).answers("count(12) = 60; fault(0) = 2; fault(1) = 0");
             new Wagons().pad("t-0b.").answers("fault(0) = 0; fault(1) = 2");
         });
     }

@@ -1,9 +1,5 @@
 /** The promises 9 to 14: the pad, and what is read from it. */
 final class TextBoundaries extends Boundaries {
-    /** 60 turns on a road of 14 inns, by PACE 1 and STOP 3, of which each is possible, and the race is not over. */
-    private static final String SIXTY_TURNS = "t-1-".repeat(9) + "1-1" + "t-1-".repeat(5) + "t";
-    private static final String FOURTEEN_INNS = "i".repeat(14);
-
     @Override
     void tests() {
         append();
@@ -52,9 +48,9 @@ final class TextBoundaries extends Boundaries {
                         "count(13) = 1"));
         sentence("Returns the length that it had.", () -> {
             for (int length : new int[] {0, 1, 59, 60}) {
-                new Wagons().padMore(repeat("~", length)).answers("clear() = " + length + "; clear() = 0");
+                new Wagons().padMore("~".repeat(length)).answers("clear() = " + length + "; clear() = 0");
             }
-            Wagons full = new Wagons().pad(repeat("~", 60));
+            Wagons full = new Wagons().pad("~".repeat(60));
             full.answers("append(33) = LIMIT_REACHED; clear() = 60; clear() = 0");
             full.answers("road('m') = 1; clear() = 0; race('1') = 1; clear() = 0; race('x') = NOT_POSSIBLE",
                     "clear() = 1");
@@ -77,11 +73,11 @@ final class TextBoundaries extends Boundaries {
         });
         sentence("Returns the fault; INVALID_ARGUMENT; NOT_FOUND if it has none.", () -> {
             new Wagons().answers("fault(0) = 0; fault(1) = 0; fault(2) = INVALID_ARGUMENT");
-            new Wagons().pad(repeat("s", 13)).answers("fault(0) = NOT_FOUND; append(115) = 14; fault(0) = NOT_FOUND",
+            new Wagons().pad("s".repeat(13)).answers("fault(0) = NOT_FOUND; append(115) = 14; fault(0) = NOT_FOUND",
                     "append(115) = 15; fault(0) = 14; append(115) = 16; fault(0) = 14");
-            new Wagons().pad(repeat("-", 59)).answers("fault(1) = NOT_FOUND; append(45) = 60; fault(1) = NOT_FOUND",
+            new Wagons().pad("-".repeat(59)).answers("fault(1) = NOT_FOUND; append(45) = 60; fault(1) = NOT_FOUND",
                     "append(45) = LIMIT_REACHED; fault(1) = NOT_FOUND; fault(0) = 0");
-            new Wagons().pad(repeat("-", 59)).answers("append(46) = 60; fault(1) = 59; fault(0) = 0");
+            new Wagons().pad("-".repeat(59)).answers("append(46) = 60; fault(1) = 59; fault(0) = 0");
         });
     }
 
@@ -97,9 +93,9 @@ final class TextBoundaries extends Boundaries {
                 }
             }
             // A short road behind a long one, a long one behind a short one: nothing is left of the one before.
-            x.answers("road('" + repeat("m", 14) + "') = 14; count(4) = 14; road('i') = 1; count(4) = 0",
+            x.answers("road('" + "m".repeat(14) + "') = 14; count(4) = 14; road('i') = 1; count(4) = 0",
                     "count(6) = 1",
-                    "mile(2, 0) = INVALID_ARGUMENT; road('" + repeat("s", 13) + ".') = 14; count(4) = 0",
+                    "mile(2, 0) = INVALID_ARGUMENT; road('" + "s".repeat(13) + ".') = 14; count(4) = 0",
                     "count(5) = 13",
                     "count(6) = 0; mile(14, 0) = 0; drive(1) = 14; road('..') = 2; mile(2, 2) = 0; undo() = 3",
                     "mile(14, 0) = 0; mile(14, 2) = 1; count(12) = 0; undo() = 2; undo() = 1; count(0) = 1",
@@ -109,15 +105,15 @@ final class TextBoundaries extends Boundaries {
         });
         sentence("Returns how many miles it has; NOT_POSSIBLE if the pad has a fault, read as a road.", () -> {
             for (int miles = 1; miles <= 14; miles++) {
-                new Wagons().pad(repeat("i", miles)).answers("road() = " + miles + "; count(0) = " + miles + "",
+                new Wagons().pad("i".repeat(miles)).answers("road() = " + miles + "; count(0) = " + miles + "",
                         "count(6) = " + miles);
             }
             for (int signs : new int[] {0, 15, 16, 60}) {
-                new Wagons().pad(repeat("i", signs)).answers("road() = NOT_POSSIBLE; count(12) = " + signs
+                new Wagons().pad("i".repeat(signs)).answers("road() = NOT_POSSIBLE; count(12) = " + signs
                         + "; count(0) = 10; count(6) = 0; count(7) = 1; count(13) = 0");
             }
             new Wagons().pad("x").answers("road() = NOT_POSSIBLE; count(12) = 1");
-            new Wagons().pad(repeat("i", 13) + "t").answers("road() = NOT_POSSIBLE; count(12) = 14; fault(0) = 13");
+            new Wagons().pad("i".repeat(13) + "t").answers("road() = NOT_POSSIBLE; count(12) = 14; fault(0) = 13");
         });
     }
 

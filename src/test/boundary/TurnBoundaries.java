@@ -189,8 +189,8 @@ final class TurnBoundaries extends Boundaries {
         });
         sentence("Returns how many miles it has.", () -> {
             Wagons.on(".").answers("again() = 1");
-            Wagons.on(repeat("i", 14)).answers("again() = 14; again() = 14");
-            new Wagons().answers("again() = 10; road('') = NOT_POSSIBLE; again() = 10").pad(repeat(".", 15))
+            Wagons.on("i".repeat(14)).answers("again() = 14; again() = 14");
+            new Wagons().answers("again() = 10; road('') = NOT_POSSIBLE; again() = 10").pad(".".repeat(15))
                     .answers("road() = NOT_POSSIBLE; again() = 10; count(12) = 15");
         });
     }
