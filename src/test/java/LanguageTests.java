@@ -103,7 +103,7 @@ public final class LanguageTests {
                 methods++;
                 ending = head.group(1) + "}";
                 begun = number;
-            } else if (lines.get(number).equals(ending)) {
+            } else if (!ending.isEmpty() && lines.get(number).equals(ending)) {
                 must(number - begun < LONGEST_METHOD, "as short: " + lines.get(begun));
                 ending = "";
             }
