@@ -127,8 +127,8 @@ public final class ReadmeTests {
             if (row.matches()) {
                 String call = row.group(1);
                 told.add(call + " " + (row.group(2).isEmpty() ? 0 : row.group(2).split(", ").length));
-                must(named(row.group(3)).equals(promised.get(call)),
-                        "the errors of " + call + ": README.md says" + row.group(3) + "the document " + promised.get(call));
+                must(named(row.group(3)).equals(promised.get(call)), "the errors of " + call + ": README.md says"
+                        + row.group(3) + "the document " + promised.get(call));
             }
         }
         List<String> face = new ArrayList<>();
